@@ -1436,9 +1436,14 @@ public final class LetterHeaps {
         }
     }
 
-    /** Finds A NEW WORD: all rows one CHANGE from a USED WORD are kept by key, with the WORDS they join. */
+    /**
+     * Finds A NEW WORD: all rows one CHANGE from a USED WORD are kept by key, with the WORDS they join.
+     * They stand in a list, so that few rows cost little; slots only find them there again.
+     */
     static final class NewWords {
-        /** A power of two, twice as many as there can be rows: 40 WORDS have some 390 each at most. */
+        /** A WORD of seven LETTERS has the most rows by it: 389. */
+        static final int MOST_ROWS = 400 * MOST_WORDS;
+        /** A power of two, twice as many as there can be rows. */
         static final int SLOTS = 32768;
         static final int SLOT_SHIFT = 49;
         static final long SPREAD = 0x9E3779B97F4A7C15L;
@@ -1446,8 +1451,12 @@ public final class LetterHeaps {
         final Words words;
         final Steps steps;
         final Ways ways;
-        final long[] keys = new long[SLOTS];
-        final long[] joins = new long[SLOTS];
+        /** One more than the number of the row; 0: none. */
+        final int[] slots = new int[SLOTS];
+        final int[] slotOfRow = new int[MOST_ROWS];
+        final long[] keys = new long[MOST_ROWS];
+        final long[] joins = new long[MOST_ROWS];
+        int rows;
         int bestHeaps;
         int bestWords;
         long bestKey;
@@ -1464,7 +1473,7 @@ public final class LetterHeaps {
                 return;
             }
             age = steps.age;
-            Arrays.fill(keys, 0L);
+            emptyRows();
             for (int w = 0; w < words.size; w++) {
                 if (words.isUsed(w)) {
                     joinOtherLetters(w);
@@ -1473,6 +1482,13 @@ public final class LetterHeaps {
                 }
             }
             findBest();
+        }
+
+        private void emptyRows() {
+            for (int row = 0; row < rows && row < MOST_ROWS; row++) {
+                slots[slotOfRow[row]] = 0;
+            }
+            rows = 0;
         }
 
         int letterAt(int place) {
@@ -1528,15 +1544,26 @@ public final class LetterHeaps {
         private void join(long key, int w) {
             int slot = (int) ((key * SPREAD) >>> SLOT_SHIFT) & (SLOTS - 1);
             for (int i = 0; i < SLOTS; i++) {
-                if (keys[slot] == 0) {
-                    keys[slot] = key;
-                    joins[slot] = 0;
+                int row = slots[slot] - 1;
+                if (row < 0) {
+                    addRow(key, w, slot);
+                    return;
                 }
-                if (keys[slot] == key) {
-                    joins[slot] |= 1L << w;
+                if (keys[row] == key) {
+                    joins[row] |= 1L << w;
                     return;
                 }
                 slot = (slot + 1) & (SLOTS - 1);
+            }
+        }
+
+        private void addRow(long key, int w, int slot) {
+            if (rows < MOST_ROWS) {
+                keys[rows] = key;
+                joins[rows] = 1L << w;
+                slotOfRow[rows] = slot;
+                rows++;
+                slots[slot] = rows;
             }
         }
 
@@ -1544,9 +1571,9 @@ public final class LetterHeaps {
             bestHeaps = 0;
             bestWords = 0;
             bestKey = 0;
-            for (int slot = 0; slot < SLOTS; slot++) {
-                if (keys[slot] != 0 && Long.bitCount(joins[slot]) >= bestHeaps) {
-                    weigh(keys[slot], joins[slot]);
+            for (int row = 0; row < rows && row < MOST_ROWS; row++) {
+                if (Long.bitCount(joins[row]) >= bestHeaps) {
+                    weigh(keys[row], joins[row]);
                 }
             }
         }

@@ -126,6 +126,17 @@ public final class AgainstPlainTest {
         return seldom() || size == 0 ? pick(46) - 3 : pick(size);
     }
 
+    /** A WORD that there may be a STEP to. */
+    private int oneBeside(int a) {
+        for (int i = 0; i < 30 && plain.is(a); i++) {
+            int b = pick(plain.words.size());
+            if (plain.farBy(a, b) == 1 || (plain.farBy(a, b) == 2 && pick(10) == 0)) {
+                return b;
+            }
+        }
+        return anyWord();
+    }
+
     private String toldWords(int n, boolean usedOnes) {
         StringBuilder s = new StringBuilder();
         java.util.List<Integer> list = new java.util.ArrayList<>();
@@ -226,7 +237,7 @@ public final class AgainstPlainTest {
 
     private void anyCall() {
         int a = anyWord();
-        int b = anyWord();
+        int b = pick(2) == 0 ? anyWord() : oneBeside(a);
         switch (pick(30)) {
             case 0: addWord(); break;
             case 1: bars(a); break;
