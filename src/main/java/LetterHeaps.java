@@ -1738,8 +1738,10 @@ public final class LetterHeaps {
                 return false;
             }
             sortList();
-            for (int i = 0; i < size * size; i++) {
-                stepCost[i] = steps.costOf(list[i / size], list[i % size]);
+            for (int from = 0; from < size; from++) {
+                for (int to = 0; to < size; to++) {
+                    stepCost[from * size + to] = steps.costOf(list[from], list[to]);
+                }
             }
             for (int been = (1 << size) - 1; been > 0; been--) {
                 for (int at = 0; at < size; at++) {
@@ -1810,15 +1812,15 @@ public final class LetterHeaps {
 
         /** The lowest WORD by which who begins wins; NONE: who begins loses. */
         int winningWord() {
-            findStepBits();
-            int lowest = NONE;
             if (size > MOST_IN_GAME) {
                 return NONE;
             }
+            findStepBits();
             for (int been = (1 << size) - 1; been > 0; been--) {
                 winsFrom[been] = placesFrom(lostAfter(been));
             }
             int good = stepBits[0] & lostAfter(1);
+            int lowest = NONE;
             for (int i = 0; i < size; i++) {
                 if (((good >>> i) & 1) != 0 && (lowest == NONE || list[i] < lowest)) {
                     lowest = list[i];
