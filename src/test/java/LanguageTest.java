@@ -1,10 +1,13 @@
 import java.io.IOException;
+import java.lang.reflect.Array;
 import java.lang.reflect.Field;
 import java.lang.reflect.Method;
 import java.lang.reflect.Modifier;
 import java.nio.file.Files;
 import java.nio.file.Path;
 import java.util.ArrayList;
+import java.util.Collections;
+import java.util.IdentityHashMap;
 import java.util.List;
 import java.util.Set;
 import java.util.TreeSet;
@@ -27,13 +30,15 @@ public final class LanguageTest {
     private LanguageTest() {
     }
 
-    public static void main(String[] args) throws IOException {
+    public static void main(String[] args) throws IOException, IllegalAccessException {
         Path path = Path.of("src/main/java/LetterHeaps.java");
         source = Files.readString(path);
         face();
         classes();
         words();
         methods();
+        madeOnce();
+        room();
         Desk.end();
     }
 
@@ -56,6 +61,7 @@ public final class LanguageTest {
         for (Field field : LetterHeaps.class.getDeclaredFields()) {
             boolean isOpen = !Modifier.isPrivate(field.getModifiers());
             Desk.due("rule 1: field " + field.getName(), isOpen, field.getName().equals("NONE"));
+            Desk.due("rule 5: " + field, true, !Modifier.isStatic(field.getModifiers()) || Modifier.isFinal(field.getModifiers()));
         }
         Desk.due("rule 1: constructors", 1, LetterHeaps.class.getDeclaredConstructors().length);
         Desk.due("rule 1: public and final", Modifier.PUBLIC | Modifier.FINAL, LetterHeaps.class.getModifiers());
@@ -80,6 +86,7 @@ public final class LanguageTest {
                 Desk.due("rule 5: " + field, true, !Modifier.isStatic(field.getModifiers()) || Modifier.isFinal(field.getModifiers()));
             }
             Desk.due("rule 11: at most twenty fields in " + one, true, kept <= 20);
+            Desk.due("rule 2: no class inside " + one, 0, one.getDeclaredClasses().length);
         }
     }
 
@@ -122,5 +129,52 @@ public final class LanguageTest {
             }
         }
         Desk.due("methods were found", true, found > 100);
+    }
+
+    /** Rule 12 and the room that all calls share: what is made is made with the object, none of it by a call. */
+    private static void madeOnce() {
+        boolean inConstructor = false;
+        int made = 0;
+        for (String line : source.split("\n")) {
+            inConstructor = line.equals("    public LetterHeaps() {") || inConstructor && !line.equals("    }");
+            if (line.contains("new ") && !line.trim().startsWith("*") && !line.trim().startsWith("/*")) {
+                made++;
+                boolean isField = line.matches(" {8}final [\\w\\[\\]]+ \\w+ = new [^{]*;");
+                Desk.due("rule 12: made with the object: " + line.trim(), true, isField || inConstructor && line.matches(" {8}\\w+ = new [^{]*;"));
+            }
+            Desk.due("rule 12: a copy: " + line.trim(), false, line.matches(".*\\b(clone|copyOf|copyOfRange|toCharArray|substring|List)\\b.*"));
+        }
+        Desk.due("some were found", true, made > 40);
+    }
+
+    private static void room() throws IllegalAccessException {
+        LetterHeaps x = new LetterHeaps();
+        Set<Object> seen = Collections.newSetFromMap(new IdentityHashMap<>());
+        long elements = elementsOf(x, seen);
+        Desk.due("the room: objects and arrays that an object keeps: " + seen.size(), true, seen.size() < 1000);
+        Desk.due("the room: their fields and elements: " + elements, true, elements < 200000);
+    }
+
+    private static long elementsOf(Object one, Set<Object> seen) throws IllegalAccessException {
+        if (one == null || one instanceof String || !seen.add(one)) {
+            return 0;
+        }
+        Class<?> type = one.getClass();
+        long elements = 0;
+        if (type.isArray()) {
+            elements = Array.getLength(one);
+            for (int i = 0; !type.getComponentType().isPrimitive() && i < Array.getLength(one); i++) {
+                elements += elementsOf(Array.get(one, i), seen);
+            }
+            return elements;
+        }
+        for (Field field : type.getDeclaredFields()) {
+            if (!Modifier.isStatic(field.getModifiers())) {
+                elements++;
+                field.setAccessible(true);
+                elements += field.getType().isPrimitive() ? 0 : elementsOf(field.get(one), seen);
+            }
+        }
+        return elements;
     }
 }

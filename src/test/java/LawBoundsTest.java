@@ -428,6 +428,8 @@ public final class LawBoundsTest {
         costs("c5(0=1);c6(0=1)", 1);
         costs("n(0=1);c6(0=0);c7(0=0)", 6);
         costs("c0(0=0);c7(0=0)", 1);
+        costs("c99(0=0);c98(0=0)", 99);
+        costs("c98(0=0);c99(0=0)", 98);
         costs("c5(1/0=0);c6(0=0)", 6);
         costs("c5/0(0=0);c6(0=0)", 1);
         for (int at = 1; at <= 12; at++) {

@@ -13,18 +13,22 @@ public final class ToldBoundsTest {
         rowLeastCost();
         rowOfLikeOnes();
         rowEachOnce();
+        rowByStepsAlone();
         rowNumbers();
         rowWhat();
         rowTape();
         rowNone();
         rowNotToldRight();
+        rowNotToldRightAnywhere();
         rowOrder();
         gameTurns();
         gameWhat();
         gameLowest();
         gameNumbers();
         gameTape();
+        gameByEachNumber();
         gameNotToldRight();
+        gameNotToldRightAnywhere();
         farByChanges();
         farByWords();
         nearLeastFar();
@@ -36,6 +40,7 @@ public final class ToldBoundsTest {
         clearNumbers();
         clearTape();
         clearNotToldRight();
+        clearNotToldRightAnywhere();
         clearNotUsed();
         rubbedFits();
         rubbedBytes();
@@ -53,6 +58,10 @@ public final class ToldBoundsTest {
     }
 
     private static void due(String what, long want, long got) {
+        Desk.due(what, want, got);
+    }
+
+    private static void due(String what, boolean want, boolean got) {
         Desk.due(what, want, got);
     }
 
@@ -126,6 +135,15 @@ public final class ToldBoundsTest {
         row(desk, 5, new int[] {4, 2, 0, 3, 1}, 4, 3, 2, 1, 0);
         desk.law("n(!(a=2&b=1|a=1&(b=0|b=4)|a=0&b=3|a=3&(b=4|b=1)));c2(a=3&b=4)");
         row(desk, 5, new int[] {2, 1, 0, 3, 4}, 0, 1, 2, 3, 4);
+    }
+
+    /** From 1 no STEP leads to 0, though what is left from 0 on would cost as much as from 2 on. */
+    private static void rowByStepsAlone() {
+        sentence("A ROW: by STEPS between these (at each place of it)");
+        Desk desk = letters(4);
+        desk.law("n(!(a=1&b=2|a=2&b=0|a=0&b=3|a=3&b=2));c2(a=3&b=2)");
+        row(desk, 3, new int[] {1, 2, 0, 3}, 0, 1, 2, 3);
+        row(desk, 3, new int[] {1, 2, 0, 3}, 3, 2, 1, 0);
     }
 
     private static void rowNumbers() {
@@ -205,6 +223,53 @@ public final class ToldBoundsTest {
         due("these two alone", 1, desk.row(-1, 2, 3));
         desk.x.off();
         due("one that was taken off", -3, desk.row(-1, 0, 4));
+    }
+
+    /** Told are 2 to 10 of 12 WORDS, one of them wrong, at each place: no such one, one twice, not USED. */
+    private static void rowNotToldRightAnywhere() {
+        sentence("18: -3: no such WORDS, one twice, not USED (at whichever place)");
+        wrongAnywhere(10, (desk, told) -> desk.row(-1, told));
+    }
+
+    private interface Telling {
+        long of(Desk desk, int[] told);
+    }
+
+    private static void wrongAnywhere(int most, Telling telling) {
+        Desk desk = null;
+        for (int n = 2; n <= most; n++) {
+            for (int place = 0; place < n; place++) {
+                desk = place % 8 == 0 ? letters(12) : desk;
+                int[] told = upTo(n);
+                due(n + " that are right", true, telling.of(desk, told) != -3);
+                for (int w : new int[] {12, 40, 64 + place, 128 + place, 192 + place, 255}) {
+                    told[place] = w;
+                    due("told " + w + " at " + place + " of " + n, -3, telling.of(desk, told));
+                }
+                for (int other = 0; other < n; other++) {
+                    told[place] = other;
+                    due("told " + other + " at " + place + " of " + n, other != place, telling.of(desk, told) == -3);
+                }
+            }
+        }
+    }
+
+    /** One of the told ones is BARRED, or of another TONGUE than is SPOKEN. */
+    private static void notUsedAnywhere(int most, Telling telling) {
+        for (int n = 2; n <= most; n++) {
+            for (int place = 0; place < n; place++) {
+                Desk desk = letters(12);
+                desk.word("m", 50, 2);
+                int[] told = upTo(n);
+                told[place] = 12;
+                due("all are USED", true, telling.of(desk, told) != -3);
+                desk.x.speak(0);
+                due("of another TONGUE at " + place + " of " + n, -3, telling.of(desk, told));
+                desk.x.speak(-1);
+                desk.x.bar(12, true);
+                due("BARRED at " + place + " of " + n, -3, telling.of(desk, told));
+            }
+        }
     }
 
     private static void rowOrder() {
@@ -310,6 +375,28 @@ public final class ToldBoundsTest {
             due("it stays", 0, desk.x.count(3));
         }
         due("fed behind nothing", 1, desk.game(0, 0, 1));
+    }
+
+    /** Each WORD leads to the next one alone: from 0 all are gone by, from 1 all but one. */
+    private static void gameByEachNumber() {
+        sentence("A GAME on told WORDS (2 to 12), won and lost by each number of them");
+        Desk desk = letters(12);
+        desk.law("n(!b=a+1)");
+        for (int n = 2; n <= 12; n++) {
+            game(desk, n % 2 == 0 ? 1 : -2, upTo(n));
+            int[] told = upTo(n);
+            told[0] = 1;
+            told[1] = 0;
+            game(desk, n % 2 == 0 ? -2 : 2, told);
+        }
+    }
+
+    private static void gameNotToldRightAnywhere() {
+        sentence("19: -3: no such WORDS, one twice, not USED (at whichever place)");
+        wrongAnywhere(12, (desk, told) -> desk.game(0, told));
+        notUsedAnywhere(12, (desk, told) -> desk.game(0, told));
+        sentence("18: -3: not USED (at whichever place)");
+        notUsedAnywhere(10, (desk, told) -> desk.row(-1, told));
     }
 
     private static void gameNotToldRight() {
@@ -446,6 +533,12 @@ public final class ToldBoundsTest {
             }
         }
         due("the tape is empty then", 0, desk.x.count(3));
+        for (int b = 0; b < 256; b++) {
+            Desk one = b % 100 == 0 ? Desk.of("m") : desk;
+            desk = one;
+            boolean is = b >= 'a' && b <= 'z';
+            due("byte " + b + " alone", is ? b == 'm' ? 0 : 1 : -2, desk.near(Desk.list(b), 0));
+        }
         Desk none = new Desk();
         due("no WORD", -2, none.near("abc", 0));
         due("the tape is empty then", 0, none.x.count(3));
@@ -553,6 +646,11 @@ public final class ToldBoundsTest {
         due("one that was taken off", -3, desk.clear(1, 0, 4));
     }
 
+    private static void clearNotToldRightAnywhere() {
+        sentence("22: -3: no such WORDS, one twice (at whichever place)");
+        wrongAnywhere(12, (desk, told) -> desk.clear(1, 0, told));
+    }
+
     private static void clearNotUsed() {
         sentence("CLEAR of told WORDS (that they are USED is not asked)");
         Desk desk = letters(3);
@@ -601,6 +699,11 @@ public final class ToldBoundsTest {
             }
         }
         due("behind the first n it is not asked", 0, desk.rubbedOf("ab@", 2));
+        for (int b = 0; b < 256; b++) {
+            desk = b % 100 == 0 ? Desk.of("m") : desk;
+            boolean is = b >= 'a' && b <= 'z' || b == '?';
+            due("byte " + b + " alone", is ? b == 'm' || b == '?' ? 1 : 0 : -2, desk.rubbed(Desk.list(b)));
+        }
         due("without any WORD", -2, new Desk().rubbed("@"));
         due("without any WORD none fits", 0, new Desk().rubbed("?"));
     }

@@ -23,6 +23,7 @@ public final class WaysBoundsTest {
         leastCost();
         leastFewestSteps();
         leastRow();
+        leastRowFromTheFront();
         leastWhat();
         leastLongest();
         leastNoWay();
@@ -41,21 +42,26 @@ public final class WaysBoundsTest {
         heapsCounted();
         farMost();
         farOfLikeOnes();
+        farByCostAlone();
         farNone();
         betweenTwos();
         betweenOfLikeOnes();
+        betweenByTwos();
         betweenAnew();
         betweenNone();
         newWordHeaps();
         newWordByEachKind();
         newWordAnew();
+        newWordOfFewer();
         newWordOfForty();
         newWordOfLikeOnes();
+        newWordRanks();
         newWordLengths();
         newWordIsNoWord();
         newWordWhat();
         newWordPlaceBehind();
         walksInSteps();
+        walksByOneStep();
         walksNone();
         walksMany();
         drawnX();
@@ -287,6 +293,16 @@ public final class WaysBoundsTest {
         Desk.due("the first WORD in which they are unlike counts", "0 1 2 5", three.way(0, 5));
         three.law("n(k=3);n(a=1&b=2)");
         Desk.due("else by 3", "0 3 2 5", three.way(0, 5));
+    }
+
+    private static void leastRowFromTheFront() {
+        sentence("LEAST: the least row of WORDS (the first WORD counts first, not the last)");
+        Desk desk = Desk.of("a b c d e f");
+        desk.law("n(!(a=0&(b=1|b=2)|a=1&b=4|a=2&b=3|(a=3|a=4)&b=5))");
+        Desk.due("by 1 and 4, not by 2 and 3", "0 1 4 5", desk.way(0, 5));
+        due("there are two", 2, desk.x.howMany(0, 5));
+        desk.law("n(!(a=5&(b=1|b=2)|a=1&b=4|a=2&b=3|(a=3|a=4)&b=0))");
+        Desk.due("by 1 and 4, from the last WORD to the first", "5 1 4 0", desk.way(5, 0));
     }
 
     private static void leastWhat() {
@@ -612,6 +628,19 @@ public final class WaysBoundsTest {
         far(desk, 2, 2, 1);
     }
 
+    private static void farByCostAlone() {
+        sentence("THE FAR TWO: LEAST is most (how many STEPS there are does not count)");
+        Desk desk = Desk.of("a b c");
+        desk.law("n(a=1&b=0);c1(a=1|a=2&b=0);c2(0=0)");
+        far(desk, 2, 0, 1);
+        due("in one STEP", 1, desk.x.least(0, 1, 40));
+        due("as much, in two", 2, desk.x.least(1, 0, 40));
+        desk.law("n(a=0&b=1);c1(a=0|a=2&b=1);c2(0=0)");
+        far(desk, 2, 0, 1);
+        due("in two STEPS", 2, desk.x.least(0, 1, 40));
+        due("as much, in one", 1, desk.x.least(1, 0, 40));
+    }
+
     private static void farNone() {
         sentence("14: -2: no two have a way; NONE: no such what");
         Desk desk = new Desk();
@@ -680,6 +709,17 @@ public final class WaysBoundsTest {
         between(desk, 1, 0);
         Desk one = Desk.of("q");
         between(one, 0, 0);
+    }
+
+    /** From 0 two rows lead to 3, and one from there to 4. */
+    private static void betweenByTwos() {
+        sentence("BY WHICH MOST GO: of most twos (however many rows there are)");
+        Desk desk = Desk.of("a b c d e");
+        desk.law("n(!(a=0&(b=1|b=2)|(a=1|a=2)&b=3|a=3&b=4))");
+        due("rows from 0 to 4", 2, desk.x.howMany(0, 4));
+        between(desk, 3, 3);
+        desk.law("n(!(a=4&b=3|a=3&(b=1|b=2)|(a=1|a=2)&b=0))");
+        between(desk, 3, 3);
     }
 
     private static void betweenAnew() {
@@ -753,6 +793,19 @@ public final class WaysBoundsTest {
         newWord(Desk.of("bacde abcd"), 2, 2, "bacd");
         newWord(Desk.of("ab xaby"), 2, 2, "aby");
         newWord(Desk.of("mnop nmpo"), 2, 2, "mnpo");
+        Desk longest = Desk.of("abcdefg bcdefgh bcdefg");
+        longest.x.bar(2, true);
+        newWord(longest, 2, 2, "abcdefgh");
+        sentence("A NEW WORD: (THE LAW is not asked) by each KIND of CHANGE");
+        String[] twos = {"bd ac", "bdf bcadf", "bd bcad", "cd bacd", "cda cdazz", "xmnopq ymnopqz", "abcd bacde", "bacde abcd", "mnop nmpo"};
+        String[] dues = {"ad", "badf", "bad", "acd", "cdaz", "ymnopq", "bacd", "bacd", "mnpo"};
+        for (int i = 0; i < twos.length; i++) {
+            Desk desk = Desk.of(twos[i]);
+            for (String law : new String[] {"n(0=0)", "n(k=0)", "n(k=1)", "n(k=2)", "n(k=3)", "c9(0=0)"}) {
+                desk.law(law);
+                newWord(desk, 2, 2, dues[i]);
+            }
+        }
     }
 
     private static void newWordOfLikeOnes() {
@@ -773,6 +826,20 @@ public final class WaysBoundsTest {
         newWord(desk, 1, 2, "a");
         desk.x.bar(1, true);
         newWord(desk, 1, 1, "a");
+    }
+
+    /** What counts first is asked first, in whichever order the WORDS stand. */
+    private static void newWordRanks() {
+        sentence("A NEW WORD: most HEAPS, then most USED WORDS, then the shortest, then the first by the alphabet");
+        newWord(Desk.of("aaaa aaab aaac zzzz zyyz"), 2, 2, "zyzz");
+        newWord(Desk.of("zzzz zyyz aaaa aaab aaac"), 2, 2, "zyzz");
+        newWord(Desk.of("zzzz aaaa zyyz aaab aaac"), 2, 2, "zyzz");
+        newWord(Desk.of("aaab aaac aaad xy xz"), 1, 3, "aaa");
+        newWord(Desk.of("xy xz aaab aaac aaad"), 1, 3, "aaa");
+        newWord(Desk.of("abcd abce xy xz"), 1, 2, "x");
+        newWord(Desk.of("xy xz abcd abce"), 1, 2, "x");
+        newWord(Desk.of("abc abd xyz xyq"), 1, 2, "ab");
+        newWord(Desk.of("xyz xyq abc abd"), 1, 2, "ab");
     }
 
     private static void newWordLengths() {
@@ -878,6 +945,28 @@ public final class WaysBoundsTest {
         newWord(desk, 1, 2, "b");
     }
 
+    /** What joined the WORDS that are not USED now must not be told any more, wherever it stood. */
+    private static void newWordOfFewer() {
+        sentence("A NEW WORD: of WORDS that are USED now");
+        Desk desk = Desk.of("mn xyz byz");
+        newWord(desk, 1, 2, "yz");
+        desk.x.bar(1, true);
+        desk.x.bar(2, true);
+        newWord(desk, 1, 1, "m");
+        desk.x.bar(1, false);
+        newWord(desk, 1, 1, "m");
+        desk.x.bar(2, false);
+        newWord(desk, 1, 2, "yz");
+        for (int w = 0; w < 3; w++) {
+            Desk each = Desk.of("mn xyz byz");
+            due("WORDS ahead of that", 2, each.x.newWord(1));
+            for (int other = 0; other < 3; other++) {
+                each.x.bar(other, other != w);
+            }
+            newWord(each, 1, 1, new String[] {"m", "xy", "by"}[w]);
+        }
+    }
+
     private static void newWordOfForty() {
         sentence("A NEW WORD: of 40 WORDS with most rows beside them");
         Desk desk = new Desk();
@@ -910,6 +999,20 @@ public final class WaysBoundsTest {
         due("one way", 1, desk.x.walks(0, 1, 1));
         due("not back", 0, desk.x.walks(1, 0, 1));
         due("in none it is there", 1, desk.x.walks(1, 1, 0));
+    }
+
+    /** Two CHANGES and more may make the one WORD of the other: it is one STEP, and its COST does not count. */
+    private static void walksByOneStep() {
+        sentence("WALKS: how many rows of STEPS (by whichever CHANGE, at whatever COST)");
+        Desk desk = Desk.of("aa aaa aaaa");
+        for (String law : new String[] {"n(0=1)", "c9(0=0)", "c5(i=0);c3(i=1)", "n(i=0)"}) {
+            desk.law(law);
+            due("one by " + law, 1, desk.x.walks(0, 1, 1));
+            due("back by " + law, 1, desk.x.walks(1, 0, 1));
+            due("two by " + law, 1, desk.x.walks(0, 2, 2));
+            due("around by " + law, 2, desk.x.walks(1, 1, 2));
+            due("ten by " + law, 16, desk.x.walks(0, 0, 10));
+        }
     }
 
     private static void walksNone() {

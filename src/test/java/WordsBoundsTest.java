@@ -263,6 +263,12 @@ public final class WordsBoundsTest {
                 due("the tape is empty then", 0, desk.x.count(3));
             }
         }
+        for (int b = 0; b < 256; b++) {
+            Desk one = new Desk();
+            boolean is = b >= 'a' && b <= 'z';
+            due("byte " + b + " alone", is ? 0 : -2, one.word(Desk.list(b), 0, 1));
+            due("LETTER " + (b - 'a'), is ? -1 : -2, one.check(0, b - 'a'));
+        }
         desk.tape("qqqqqqq{");
         due("of the first n alone", came, desk.x.word(7, 0, 1));
         due("the eighth of eight", -2, desk.word("qqqqqqr{", 0, 1));

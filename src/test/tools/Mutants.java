@@ -26,6 +26,13 @@ public final class Mutants {
     private static final Pattern NUMBER = Pattern.compile("(?<![\\w.])\\d+(?!\\w)");
     private static final Pattern STATEMENT = Pattern.compile("^ +(?!return|int |long |boolean |static |final |private |public |break|continue|import)\\w[^{}]*;$");
 
+    /** What a call of the face might change beside what it answers. */
+    private static final String[] SIDE_EFFECTS = {"tape.size = 0;", "tape.size = Math.max(tape.size, tape.taken);", "drawn ^= 1;",
+        "law.clauses = 0; law.age++;", "words.setSpoken(NONE);", "if (words.size > 0) { words.setKnown(0, 0); }",
+        "if (words.size > 0) { words.barred[0] ^= true; words.findUsed(); }"};
+    private static final Pattern RETURN = Pattern.compile("^( +)return (.*);$");
+    private static final Pattern USED = Pattern.compile("words\\.isUsed\\(([^()]*)\\)");
+
     private record Mutant(int line, String before, String after) { }
 
     private final JavaCompiler compiler = ToolProvider.getSystemJavaCompiler();
@@ -69,6 +76,7 @@ public final class Mutants {
             System.out.print(one.get());
         }
         pool.shutdown();
+        delete(work.toFile());
         System.out.println(told.size() + " breaks, " + unseen + " not seen");
     }
 
@@ -93,7 +101,39 @@ public final class Mutants {
         if (STATEMENT.matcher(text).matches()) {
             all.add(new Mutant(line, text, ";"));
         }
+        addSideEffects(all, line, text);
+        addOtherUsed(all, line, text);
         return all;
+    }
+
+    private void addSideEffects(List<Mutant> all, int line, String text) {
+        Matcher end = RETURN.matcher(text);
+        if (line < lines.indexOf("    private int countOfWord(int what) {") && end.matches()) {
+            boolean isTruth = end.group(2).equals("true") || end.group(2).equals("false");
+            String answer = isTruth || end.group(2).contains("setBarred") ? "boolean" : end.group(2).equals("NONE") ? "int" : "var";
+            for (String effect : SIDE_EFFECTS) {
+                all.add(new Mutant(line, text, answer + " got = " + end.group(2) + "; if (true) { " + effect + " return got; }"));
+            }
+        }
+    }
+
+    private static void addOtherUsed(List<Mutant> all, int line, String text) {
+        Matcher used = USED.matcher(text);
+        while (used.find()) {
+            String w = used.group(1);
+            for (String other : new String[] {"words.has(W)", "(words.has(W) && !words.barred[W])",
+                "(words.has(W) && (words.spoken == NONE || (words.tongues[W] >> words.spoken & 1) != 0))"}) {
+                all.add(new Mutant(line, text, text.substring(0, used.start()) + other.replace("W", w) + text.substring(used.end())));
+            }
+        }
+    }
+
+    private static void delete(File file) {
+        File[] inside = file.listFiles();
+        for (int i = 0; inside != null && i < inside.length; i++) {
+            delete(inside[i]);
+        }
+        file.delete();
     }
 
     /** Empty: it is seen, or it does not compile. */
