@@ -64,7 +64,8 @@ public final class FaceTest {
         }
         for (Field f : c.getDeclaredFields()) {
             if (!Modifier.isPrivate(f.getModifiers())) {
-                open.add(bits(f.getModifiers()) + f.getType() + " " + f.getName() + " = " + f.get(null) + ";");
+                Object value = Modifier.isStatic(f.getModifiers()) ? f.get(null) : "of each object";
+                open.add(bits(f.getModifiers()) + f.getType() + " " + f.getName() + " = " + value + ";");
             }
         }
         Desk.due("the members", due.toString(), open.toString());
