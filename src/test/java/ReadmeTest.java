@@ -1,5 +1,6 @@
 import java.io.File;
 import java.io.IOException;
+import java.nio.file.FileVisitOption;
 import java.nio.file.Files;
 import java.nio.file.Path;
 import java.util.ArrayList;
@@ -81,8 +82,9 @@ public final class ReadmeTest {
         copyAll(Path.of("../shared"), copy.resolve("../shared").normalize());
     }
 
+    /** A folder may stand elsewhere, with a link in its place. */
     private static void copyAll(Path from, Path to) throws IOException {
-        try (Stream<Path> all = Files.walk(from)) {
+        try (Stream<Path> all = Files.walk(from, FileVisitOption.FOLLOW_LINKS)) {
             for (Path one : (Iterable<Path>) all::iterator) {
                 Path there = to.resolve(from.relativize(one).toString());
                 if (Files.isDirectory(one)) {
